@@ -28,6 +28,7 @@ public final class PromisesTest {
         level();
         boundIn();
         boundOut();
+        eachCallClears();
         partedInOrder();
         partedByNumbers();
         priceOfOuter();
@@ -726,6 +727,35 @@ public final class PromisesTest {
         due("25 binds(1), wider", x.binds(1), 0);
         due("27 rent(1), wider", x.rent(1), 0);
         due("26 surplus, wider", x.surplus(), 185);
+    }
+
+    // ---- promises 21 to 29: each is answered as it is cleared now, whatever was asked before
+    private static void eachCallClears() {
+        for (int round = 0; round < 2; round++) {
+            ZoneCapacity[] x = new ZoneCapacity[13];
+            for (int i = 0; i < x.length; i++) {
+                x[i] = boundMarket();
+                if (round == 1) {
+                    x[i].set(2, 1, 9);
+                    due("21 price(1), wide", x[i].price(1), 8);
+                    x[i].set(2, 1, 3);
+                }
+            }
+            due("21 at once", x[0].price(1), 30);
+            due("22 at once", x[1].net(1), -3);
+            due("23 at once", x[2].served(1), 4);
+            due("24 at once", x[3].taken(0, 1), 1);
+            due("24 at once, all", x[4].taken(0, -1), 7);
+            due("25 at once", x[5].binds(1), 1);
+            due("26 at once", x[6].surplus(), 137);
+            due("27 at once", x[7].rent(1), 66);
+            due("28 at once", x[8].paid(0), 56);
+            due("28 at once, of an owner", x[9].paid(100), 56);
+            due("29 at once", x[10].charged(1), 120);
+            due("32 at once", x[11].wider(1, 1, false), 22);
+            x[12].set(1, 0, 8);
+            due("31 at once", x[12].pivotal(0, 0), 1);
+        }
     }
 
     // ---- promises 22 to 24: own lines, then zones, then units
