@@ -562,6 +562,11 @@ public final class ZoneCapacity {
             return had == 0 ? 0 : at(pointUnits, zone * MOST_POINTS + had - 1);
         }
 
+        /** What the first unit is worth, 0 if none is wanted. */
+        int firstPrice(int zone) {
+            return at(points, zone) == 0 ? 0 : at(pointPrices, zone * MOST_POINTS);
+        }
+
         int lastPrice(int zone) {
             int had = at(points, zone);
             return had == 0 ? MOST : at(pointPrices, zone * MOST_POINTS + had - 1);
@@ -609,26 +614,24 @@ public final class ZoneCapacity {
 
         /** How many units are worth a price (0 to 10000) or more. */
         int wantedFrom(int zone, int least) {
-            int units = 0;
             int x = 0;
-            int v = at(pointPrices, zone * MOST_POINTS);
+            int v = 0;
             for (int i = 0; i < at(points, zone); i++) {
                 int y = at(pointUnits, zone * MOST_POINTS + i);
                 int w = at(pointPrices, zone * MOST_POINTS + i);
-                units += wantedBetween(v, w, y - x, least);
+                if (w < least) {
+                    return i == 0 ? 0 : x + wantedBetween(v, w, y - x, least);
+                }
                 x = y;
                 v = w;
             }
-            return units;
+            return x;
         }
 
         private static int wantedBetween(int v, int w, int length, int least) {
-            if (v < least) {
-                return 0;
-            }
             int fall = v - w;
-            if (w >= least || fall <= 0) {
-                return length;
+            if (fall <= 0) {
+                return 0;
             }
             // fall * k / length, downwards, is v - least at most: so fall * k is below what is here.
             return ((v - least + 1) * length - 1) / fall;
@@ -801,11 +804,18 @@ public final class ZoneCapacity {
         final int[] takenUnits = new int[MOST_RESOURCES * LINES];
         private final int[] units = new int[MOST_RESOURCES * LINES];
         private final int[] its = new int[MOST_RESOURCES * LINES];
+        private final int[] levels = new int[MOST_ZONES];
         private final int[] lows = new int[MOST_ZONES];
         private final int[] highs = new int[MOST_ZONES];
+        /** The price that lows and highs were filled at, NONE ahead of any. */
+        private int filledAt;
+        /** The highest price of a line, of a unit: above it no level changes. */
+        private int top;
 
         void clear() {
             readLines();
+            readTop();
+            filledAt = NONE;
             put(prices, 0, NONE);
             put(nets, 0, 0);
             for (int z = 0; z < market.zones.many; z++) {
@@ -818,8 +828,8 @@ public final class ZoneCapacity {
 
         int levelOf(int zone, int limit) {
             readLines();
-            fillLevels(zone, limit, lows);
-            return at(lows, zone);
+            fillLevels(zone, limit, levels);
+            return at(levels, zone);
         }
 
         private void readLines() {
@@ -832,27 +842,39 @@ public final class ZoneCapacity {
             }
         }
 
+        private void readTop() {
+            top = 0;
+            for (int z = 0; z < market.zones.many; z++) {
+                top = Math.max(top, market.zones.firstPrice(z));
+            }
+            for (int i = 0; i < market.offers.many * LINES; i++) {
+                if (at(units, i) > 0) {
+                    top = Math.max(top, at(its, i));
+                }
+            }
+        }
+
         /**
          * LOW at a price of all zones from one on. HIGH at a price is LOW at the next one, prices
          * being whole numbers.
          */
-        private void fillLevels(int from, int limit, int[] levels) {
+        private void fillLevels(int from, int limit, int[] row) {
             Zones zones = market.zones;
             Offers offers = market.offers;
             for (int z = from; z < zones.many; z++) {
-                put(levels, z, -zones.wantedFrom(z, limit));
+                put(row, z, -zones.wantedFrom(z, limit));
             }
             for (int r = 0; r < offers.many; r++) {
                 int z = at(offers.zones, r);
                 if (z >= from) {
-                    put(levels, z, at(levels, z) + unitsBelow(r, limit));
+                    put(row, z, at(row, z) + unitsBelow(r, limit));
                 }
             }
             // Inner zones have higher numbers, so each is whole before its outer one counts it.
             for (int z = zones.many - 1; z > from; z--) {
                 int outer = at(zones.outer, z);
                 if (outer >= from) {
-                    put(levels, outer, at(levels, outer) + zones.cut(z, at(levels, z)));
+                    put(row, outer, at(row, outer) + zones.cut(z, at(row, z)));
                 }
             }
         }
@@ -871,9 +893,9 @@ public final class ZoneCapacity {
         private int leastPrice(int zone, int least) {
             int tooLow = 0;
             for (int bit = HIGHEST_BIT; bit > 0; bit >>= 1) {
-                if (tooLow + bit <= MOST) {
-                    fillLevels(zone, tooLow + bit, highs);
-                    if (at(highs, zone) < least) {
+                if (tooLow + bit <= top) {
+                    fillLevels(zone, tooLow + bit, levels);
+                    if (at(levels, zone) < least) {
                         tooLow += bit;
                     }
                 }
@@ -884,8 +906,12 @@ public final class ZoneCapacity {
         /** Parts what a zone has at its price to its lines, its inner zones, its units. */
         private void part(int zone) {
             int p = at(prices, zone);
-            fillLevels(zone, p, lows);
-            fillLevels(zone, p + 1, highs);
+            // Most zones have the price of their outer one, with which they were filled already.
+            if (p != filledAt) {
+                fillLevels(zone, p, lows);
+                fillLevels(zone, p + 1, highs);
+                filledAt = p;
+            }
             int left = at(nets, zone) - at(lows, zone);
             left = partToLines(zone, p, left);
             left = partToInner(zone, p, left);
