@@ -809,7 +809,10 @@ public final class ZoneCapacity {
         private final int[] highs = new int[MOST_ZONES];
         /** The price that lows and highs were filled at, NONE ahead of any. */
         private int filledAt;
-        /** The highest price of a line, of a unit: above it no level changes. */
+        /**
+         * The highest worth of a unit. No price is above it: there HIGH of each zone is 0 or more, and
+         * a zone out of which more goes has as much already at the price of its outer one.
+         */
         private int top;
 
         void clear() {
@@ -846,11 +849,6 @@ public final class ZoneCapacity {
             top = 0;
             for (int z = 0; z < market.zones.many; z++) {
                 top = Math.max(top, market.zones.firstPrice(z));
-            }
-            for (int i = 0; i < market.offers.many * LINES; i++) {
-                if (at(units, i) > 0) {
-                    top = Math.max(top, at(its, i));
-                }
             }
         }
 
