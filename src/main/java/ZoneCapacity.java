@@ -3,8 +3,8 @@ import java.util.NoSuchElementException;
 /**
  * An auction for capacity by zones, as ../shared/DOC.md promises it.
  *
- * <p>All rows are made once, with the object: no call makes an object. Every row is read by at()
- * and written by put(), which look at the index first.
+ * <p>All rows are made once, with the object: but for an exception that the document names, no call
+ * makes an object. Every row is read by at() and written by put(), which look at the index first.
  */
 public final class ZoneCapacity {
     public static final int NONE = -1;
