@@ -202,7 +202,7 @@ public final class ZoneCapacity {
         }
         switch (what) {
             case 0:
-                return at(zones.outer, zone);
+                return zone == 0 ? NONE : at(zones.outer, zone);
             case 1:
                 return at(zones.in, zone);
             case 2:
@@ -507,10 +507,6 @@ public final class ZoneCapacity {
         final int[] points = new int[MOST_ZONES];
         final int[] pointUnits = new int[MOST_ZONES * MOST_POINTS];
         final int[] pointPrices = new int[MOST_ZONES * MOST_POINTS];
-
-        Zones() {
-            put(outer, 0, NONE);
-        }
 
         void copyFrom(Zones other) {
             if (other == null) {

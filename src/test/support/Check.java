@@ -18,6 +18,15 @@ final class Check {
         due(call, got ? 1L : 0L, want ? 1L : 0L);
     }
 
+    static void dueSame(String what, String got, String want) {
+        if (!got.equals(want)) {
+            wrong++;
+            if (wrong <= 40) {
+                System.out.println(what + " is" + got + "\ndue is" + want);
+            }
+        }
+    }
+
     /** A call that is due to throw NoSuchElementException: of a zone, of a resource. */
     static void dueNoZone(ZoneCapacity x, int zone, int what) {
         boolean thrown = false;
