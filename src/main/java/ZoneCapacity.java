@@ -501,6 +501,7 @@ public final class ZoneCapacity {
     /** The zones, their limits and their curves. */
     private static final class Zones {
         int many = 1;
+        /** Of ZONE 0, which has none, nothing is read here. */
         final int[] outer = new int[MOST_ZONES];
         final int[] in = new int[MOST_ZONES];
         final int[] out = new int[MOST_ZONES];
