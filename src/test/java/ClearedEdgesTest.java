@@ -22,6 +22,7 @@ public final class ClearedEdgesTest {
         priceOfNothing();
         priceByWhichHighIsZero();
         priceAtTheEnds();
+        priceOfEach();
         priceOfOuterAboveLow();
         priceOfOuterBelowHigh();
         leastPriceOfAnInnerOne();
@@ -43,11 +44,16 @@ public final class ClearedEdgesTest {
         paidOfEmptyAndFull();
         surplusOfNothing();
         surplusOfAll();
+        clearedBehindBack();
         looksChangeNothing();
         Check.finish();
     }
 
     private static void due(String call, long got, long want) {
+        Check.due(call, got, want);
+    }
+
+    private static void due(String call, boolean got, boolean want) {
         Check.due(call, got, want);
     }
 
@@ -249,6 +255,17 @@ public final class ClearedEdgesTest {
         due("21 of 0", x.price(0), 0);
         due("21 of 1", x.price(1), 9999);
         due("25 in binds", x.binds(1), 1);
+    }
+
+    // ---- p: each of 0 to 9999 may be the least
+    private static void priceOfEach() {
+        for (int p = 0; p <= 9999; p++) {
+            ZoneCapacity x = wanting(1, p);
+            due("21 wanted at " + p, x.price(0), p);
+            x = wanting(1, 9999);
+            offer(x, 0, 1, p);
+            due("21 offered at " + p, x.price(0), p);
+        }
     }
 
     // ---- PRICE of another one: that of its OUTER, if by this NET is not below LOW; else the least p
@@ -673,6 +690,52 @@ public final class ClearedEdgesTest {
         due("26 surplus", x.surplus(), due);
         due("28 paid", x.paid(100), 9000L * (12 * 6 + 34));
         due("29 charged", x.charged(0), 9000L * (12 * 6 + 34));
+    }
+
+    // ---- all is as was kept: what was cleared with more ZONES, RESOURCES, STEPS, POINTS leaves nothing
+    private static void clearedBehindBack() {
+        for (int had = 0; had <= 3; had++) {
+            ZoneCapacity x = cleared(had);
+            x.keep(0);
+            for (int r = had; r < 12; r++) {
+                x.resource(0, 9, 0, r % 6, r % 2 == 0);
+                x.step(r, 2, 9);
+                x.step(r, 2, 9);
+                x.step(r, 2, 9);
+            }
+            for (int z = 1; z < 6; z++) {
+                x.zone(0, 9, 9);
+                x.point(z, 5, 9);
+            }
+            due("26 surplus with more", x.surplus() > 0, true);
+            due("30 would be with more", x.without(11, 0), 9);
+            due("31 would be with more", x.pivotal(1, 0), 0);
+            x.back(0);
+            ZoneCapacity y = cleared(had);
+            String name = " behind back, " + had + " had";
+            for (int owner = 0; owner < 6; owner++) {
+                due("28 owner " + owner + name, x.paid(100 + owner), owner < had ? 9 : 0);
+                due("31 owner " + owner + name, x.pivotal(owner, 0), y.pivotal(owner, 0));
+            }
+            due("21" + name, x.price(0), 9);
+            due("23" + name, x.served(0), had);
+            for (int r = 0; r < had; r++) {
+                due("30" + name, x.without(r, 0), 9);
+                due("35" + name, x.gain(r, 0, 0), 9);
+            }
+            due("30 there is none such" + name, x.without(had, 0), -1);
+            Check.dueSame("13 all" + name, Twins.look(x), Twins.look(y));
+        }
+    }
+
+    /** 8 are wanted at 9, some RESOURCES offer one each at 9. */
+    private static ZoneCapacity cleared(int resources) {
+        ZoneCapacity x = wanting(8, 9);
+        for (int r = 0; r < resources; r++) {
+            x.resource(0, 1, 0, r, false);
+            x.step(r, 1, 9);
+        }
+        return x;
     }
 
     // ---- what is looked at stays as it is

@@ -29,6 +29,7 @@ public final class TextEdgesTest {
         otherSigns();
         semicolons();
         theEnd();
+        aStatementInAStatement();
         zoneStatement();
         curveStatement();
         curveUnitsRise();
@@ -405,6 +406,35 @@ public final class TextEdgesTest {
         fault(1, "curve 0 7|");
         fault(1, "offer 0 1|");
         fault(1, "zone 0 1" + " ".repeat(492) + "|");
+    }
+
+    // ---- 1: a STATEMENT can't stand in another one, wherever that is cut
+    private static void aStatementInAStatement() {
+        String[] statements = {"zone 0 1 1", "curve 0 7 7 8 7", "resource 0 1 0 0 must free", "offer 0 1 1 1 2 1 3",
+            "floor 0 1", "ceiling 1", "limits 1 1 1"};
+        String[] others = {"zone 0 2 2;", "curve 1;", "resource 1 2 0 0;", "offer 1;", "floor 1 2;", "ceiling 2;",
+            "limits 2 2 2;"};
+        for (String statement : statements) {
+            for (int end = statement.indexOf(' '); end >= 0; end = statement.indexOf(' ', end + 1)) {
+                inside(statement.substring(0, end), others);
+            }
+            inside(statement, others);
+        }
+        for (String other : others) {
+            told(other, 1);
+        }
+    }
+
+    private static void inside(String ahead, String[] others) {
+        for (String other : others) {
+            fault(1, ahead + " |" + other);
+        }
+        fault(1, ahead + "|");
+        if (!Character.isDigit(ahead.charAt(ahead.length() - 1)) && !ahead.startsWith("resource 0")) {
+            fault(1, ahead + " |must;");
+            fault(1, ahead + " |free;");
+            fault(1, ahead + "|;");
+        }
     }
 
     // ---- zone INT INT INT (OUTER, IN, OUT)
