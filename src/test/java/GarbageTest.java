@@ -3,7 +3,8 @@ import java.util.Random;
 
 /**
  * Calls with any numbers at all: nothing but the document's exception is ever thrown, only by the
- * two calls that have it, and what can't be changes nothing.
+ * two calls that have it, and what can't be changes nothing. Each call is made on one object, on its
+ * twin only the changes that were not refused: both have to tell the same at the end.
  */
 public final class GarbageTest {
     private static final int[] ODD = {
@@ -11,19 +12,43 @@ public final class GarbageTest {
         5, 6, 7, 9, 10, 11, 12, 13, 14, 24, 25, 35, 36, 48, 99, 100, 105, 106, 499, 500, 501, 1999, 2000, 2001,
         9998, 9999, 10000, 65536, 1 << 24, Integer.MAX_VALUE - 1, Integer.MAX_VALUE,
     };
+    /** With those of a full market and of told() no object has more than 512. */
+    private static final int CALLS = 130;
+
     private final Random random;
+    private final String name;
     private final ZoneCapacity x = new ZoneCapacity();
+    private final ZoneCapacity twin = new ZoneCapacity();
+
+    /** A change, as it answers; a refused one answers NONE, a boolean counts 1 or NONE. */
+    private interface Change {
+        int on(ZoneCapacity x);
+    }
 
     private GarbageTest(int seed) {
         random = new Random(seed);
+        name = "run " + seed + ": ";
+        begin(x, seed / 3 % 3);
+        begin(twin, seed / 3 % 3);
+    }
+
+    private static void begin(ZoneCapacity x, int with) {
+        if (with == 0) {
+            Markets.empty(x);
+        } else if (with == 1) {
+            Markets.ordinary(x);
+        } else {
+            Markets.full(x);
+        }
     }
 
     public static void main(String[] args) {
-        for (int seed = 1; seed <= 400; seed++) {
+        for (int seed = 1; seed <= 1800 && !Check.isWrong(); seed++) {
             GarbageTest test = new GarbageTest(seed);
-            for (int i = 0; i < 512; i++) {
+            for (int i = 0; i < CALLS; i++) {
                 test.call(seed % 3);
             }
+            Check.dueSame(test.name + "what is told", told(test.x), told(test.twin));
         }
         largest();
         Check.finish();
@@ -42,71 +67,75 @@ public final class GarbageTest {
     }
 
     private void call(int how) {
-        boolean yes = random.nextBoolean();
         int which = random.nextInt(37);
         try {
             if (which < 15) {
-                change(which, how, yes);
+                change(which, how);
             } else {
-                look(which, how, yes);
+                look(which, how);
             }
         } catch (NoSuchElementException e) {
-            Check.due("call " + which + " may throw", which == 15 || which == 16, true);
+            Check.due(name + "call " + which + " may throw", which == 15 || which == 16, true);
         } catch (RuntimeException e) {
-            Check.due("call " + which + " threw " + e, 1, 0);
+            Check.due(name + "call " + which + " threw " + e, 1, 0);
         }
     }
 
-    private void change(int which, int how, boolean yes) {
-        int before = told();
-        boolean same;
-        switch (which) {
-            case 0:
-                same = x.feed(odd(), odd(), odd(), odd(), odd()) == -1;
-                break;
-            case 1:
-                same = !x.end(any(how));
-                break;
-            case 2:
-                x.tell();
-                return;
-            case 3:
-            case 4:
-                same = x.zone(any(how), any(how), any(how)) == -1;
-                break;
-            case 5:
-            case 6:
-                same = x.point(any(how), any(how), any(how)) == -1;
-                break;
-            case 7:
-            case 8:
-                same = x.resource(any(how), any(how), any(how), any(how), yes) == -1;
-                break;
-            case 9:
-            case 10:
-                same = x.step(any(how), any(how), any(how)) == -1;
-                break;
-            case 11:
-                same = x.drop(random.nextInt(9) == 0 ? any(how) : odd(), yes) == -1;
-                break;
-            case 12:
-                same = !x.set(any(how), any(how), any(how));
-                break;
-            case 13:
-                x.keep(any(how));
-                same = true;
-                break;
-            default:
-                same = !x.back(random.nextInt(9) == 0 ? any(how) : odd());
-                break;
+    private void change(int which, int how) {
+        Change change = changeOf(which, how);
+        int answer = change.on(x);
+        // tell() empties the tape, though it answers NONE
+        if (answer != -1 || which == 2) {
+            Check.due(name + "call " + which + " of the twin", change.on(twin), answer);
         }
-        Check.due("call " + which + " changed nothing", same && before != told(), false);
     }
 
-    private void look(int which, int how, boolean yes) {
+    private static int number(boolean answer) {
+        return answer ? 1 : -1;
+    }
+
+    private Change changeOf(int which, int how) {
+        boolean yes = random.nextBoolean();
+        int seldom = random.nextInt(9) == 0 ? any(how) : odd();
         int a = any(how);
         int b = any(how);
-        int before = told();
+        int c = any(how);
+        int d = any(how);
+        int e = odd();
+        switch (which) {
+            case 0:
+                return x -> x.feed(a, b, c, d, e);
+            case 1:
+                return x -> number(x.end(a));
+            case 2:
+                return ZoneCapacity::tell;
+            case 3:
+            case 4:
+                return x -> x.zone(a, b, c);
+            case 5:
+            case 6:
+                return x -> x.point(a, b, c);
+            case 7:
+            case 8:
+                return x -> x.resource(a, b, c, d, yes);
+            case 9:
+            case 10:
+                return x -> x.step(a, b, c);
+            case 11:
+                return x -> x.drop(seldom, yes);
+            case 12:
+                return x -> number(x.set(a, b, c));
+            case 13:
+                return x -> number(x.keep(a));
+            default:
+                return x -> number(x.back(seldom));
+        }
+    }
+
+    private void look(int which, int how) {
+        boolean yes = random.nextBoolean();
+        int a = any(how);
+        int b = any(how);
         switch (which) {
             case 15: x.zoneOf(a, b); break;
             case 16: x.resourceOf(a, b); break;
@@ -131,32 +160,35 @@ public final class GarbageTest {
             case 35: x.gain(a, b, any(how)); break;
             default: x.best(a, b); break;
         }
-        Check.due("call " + which + " only looks", told(), before);
     }
 
-    /** All that is told, as one number. */
-    private int told() {
-        int h = x.count(3);
+    /** All that is told, in some three hundred calls at most. */
+    private static String told(ZoneCapacity x) {
+        StringBuilder b = new StringBuilder("\nfault ").append(x.fault()).append(" counts");
         for (int what = 0; what < 14; what++) {
-            h = h * 31 + x.count(what);
+            b.append(' ').append(x.count(what));
         }
-        for (int z = 0; z < x.count(0); z++) {
+        int zones = x.count(0);
+        for (int z = 0; z < zones; z++) {
+            b.append("\nzone ").append(z);
             for (int what = 0; what < 6; what++) {
-                h = h * 31 + x.zoneOf(z, what);
+                b.append(' ').append(x.zoneOf(z, what));
             }
             for (int u = 1; u < 12; u++) {
-                h = h * 31 + x.worth(z, u);
+                b.append(' ').append(x.worth(z, u));
             }
         }
-        for (int r = 0; r < x.count(1); r++) {
+        int resources = x.count(1);
+        for (int r = 0; r < resources; r++) {
+            b.append("\nresource ").append(r);
             for (int what = 0; what < 7; what++) {
-                h = h * 31 + x.resourceOf(r, what);
+                b.append(' ').append(x.resourceOf(r, what));
             }
             for (int k = 0; k < 4; k++) {
-                h = h * 31 + x.line(r, k, true) + 7 * x.line(r, k, false);
+                b.append(' ').append(x.line(r, k, false)).append(" at ").append(x.line(r, k, true));
             }
         }
-        return h * 31 + x.fault();
+        return b.toString();
     }
 
     /** The most of everything: no number is beyond what holds it. */

@@ -6,7 +6,7 @@ import java.util.Random;
  */
 public final class MarketsTest {
     private final Random random;
-    private final ZoneCapacity x = new ZoneCapacity();
+    private final Renewed x = new Renewed();
     private final Model m = new Model();
     private final Model[] kept = new Model[2];
     private final String name;
@@ -41,8 +41,8 @@ public final class MarketsTest {
         Check.due(name + call, got, want);
     }
 
-    private void due(String call, boolean got, boolean want) {
-        Check.due(name + call, got, want);
+    private static long number(boolean answer) {
+        return answer ? 1 : 0;
     }
 
     /** From 0 to a number, now and then one outside. */
@@ -92,7 +92,7 @@ public final class MarketsTest {
                 int outer = random.nextBoolean() ? m.zones.size() - 1 : anyZone();
                 int in = upTo(mostLimit);
                 int out = upTo(mostLimit);
-                due("zone", x.zone(outer, in, out), m.zone(outer, in, out));
+                due("zone", x.change(1, c -> c.zone(outer, in, out)), m.zone(outer, in, out));
                 break;
             }
             case 2:
@@ -101,7 +101,7 @@ public final class MarketsTest {
                 int z = anyZone();
                 int units = upTo(mostUnits);
                 int price = upTo(mostPrice);
-                due("point", x.point(z, units, price), m.point(z, units, price));
+                due("point", x.change(1, c -> c.point(z, units, price)), m.point(z, units, price));
                 break;
             }
             case 5:
@@ -111,7 +111,8 @@ public final class MarketsTest {
                 int kind = upTo(3);
                 int owner = random.nextBoolean() ? random.nextInt(2) : upTo(5);
                 boolean must = random.nextBoolean();
-                due("resource", x.resource(z, size, kind, owner, must), m.resource(z, size, kind, owner, must));
+                due("resource", x.change(1, c -> c.resource(z, size, kind, owner, must)),
+                        m.resource(z, size, kind, owner, must));
                 break;
             }
             case 7:
@@ -120,7 +121,7 @@ public final class MarketsTest {
                 int r = anyResource();
                 int units = upTo(mostSize / 2 + 1);
                 int price = upTo(mostPrice);
-                due("step", x.step(r, units, price), m.step(r, units, price));
+                due("step", x.change(1, c -> c.step(r, units, price)), m.step(r, units, price));
                 break;
             }
             default:
@@ -136,22 +137,23 @@ public final class MarketsTest {
             int most = what < 2 ? mostPrice : what < 4 ? mostLimit : 1;
             int k = what == 4 ? anyResource() : what == 0 ? upTo(3) : anyZone();
             int v = upTo(most);
-            due("set(" + what + ", " + k + ", " + v + ")", x.set(what, k, v), m.set(what, k, v));
-            due("set again", x.set(what, k, v), m.set(what, k, v));
+            String call = "set(" + what + ", " + k + ", " + v + ")";
+            due(call, x.change(1, c -> number(c.set(what, k, v))), number(m.set(what, k, v)));
+            due(call + " again", x.change(1, c -> number(c.set(what, k, v))), number(m.set(what, k, v)));
         } else if (dice == 8) {
             boolean steps = random.nextBoolean();
             int which = steps ? anyResource() : anyZone();
-            due("drop", x.drop(which, steps), m.drop(which, steps));
+            due("drop", x.change(1, c -> c.drop(which, steps)), m.drop(which, steps));
         } else if (dice < 11) {
             int slot = upTo(1);
-            due("keep", x.keep(slot), slot == 0 || slot == 1);
+            due("keep", x.change(1, c -> number(c.keep(slot))), number(slot == 0 || slot == 1));
             if (slot == 0 || slot == 1) {
                 kept[slot] = m.copy();
             }
         } else {
             int slot = upTo(1);
             boolean there = (slot == 0 || slot == 1) && kept[slot] != null;
-            due("back", x.back(slot), there);
+            due("back", x.change(1, c -> number(c.back(slot))), number(there));
             if (there) {
                 m.takeAll(kept[slot]);
             }
@@ -159,44 +161,44 @@ public final class MarketsTest {
     }
 
     private void lookAtWhatIsTold() {
-        due("count(0)", x.count(0), m.zones.size());
-        due("count(1)", x.count(1), m.resources.size());
-        due("count(2)", x.count(2), m.ceiling);
+        due("count(0)", x.look().count(0), m.zones.size());
+        due("count(1)", x.look().count(1), m.resources.size());
+        due("count(2)", x.look().count(2), m.ceiling);
         for (int k = 0; k < 4; k++) {
-            due("floor", x.count(10 + k), m.floors[k]);
+            due("floor", x.look().count(10 + k), m.floors[k]);
         }
         for (int z = 0; z < m.zones.size(); z++) {
             Model.Zone zone = m.zones.get(z);
-            due("outer", x.zoneOf(z, 0), zone.outer);
-            due("in", x.zoneOf(z, 1), zone.in);
-            due("out", x.zoneOf(z, 2), zone.out);
-            due("points", x.zoneOf(z, 3), zone.points.size());
-            due("wanted", x.zoneOf(z, 4), m.wanted(z));
+            due("outer", x.look().zoneOf(z, 0), zone.outer);
+            due("in", x.look().zoneOf(z, 1), zone.in);
+            due("out", x.look().zoneOf(z, 2), zone.out);
+            due("points", x.look().zoneOf(z, 3), zone.points.size());
+            due("wanted", x.look().zoneOf(z, 4), m.wanted(z));
             int bits = 0;
             for (int r = 0; r < m.resources.size(); r++) {
                 bits += m.resources.get(r).zone == z ? 1 << r : 0;
             }
-            due("resources", x.zoneOf(z, 5), bits);
+            due("resources", x.look().zoneOf(z, 5), bits);
         }
         for (int r = 0; r < m.resources.size(); r++) {
             Model.Resource it = m.resources.get(r);
             int[] due = {it.zone, it.size, it.kind, it.owner, it.must ? 1 : 0, it.free ? 1 : 0, it.steps.size()};
             for (int what = 0; what < due.length; what++) {
-                due("resourceOf", x.resourceOf(r, what), due[what]);
+                due("resourceOf", x.look().resourceOf(r, what), due[what]);
             }
             for (int k = 0; k < 4; k++) {
-                due("line", x.line(r, k, false), m.unitsOf(r, k));
-                due("its", x.line(r, k, true), m.itsOf(r, k));
+                due("line", x.look().line(r, k, false), m.unitsOf(r, k));
+                due("its", x.look().line(r, k, true), m.itsOf(r, k));
             }
         }
         for (int i = 0; i < 6; i++) {
             int z = anyZone();
             int u = upTo(mostUnits);
-            due("worth(" + z + ", " + u + ")", x.worth(z, u), m.worth(z, u));
+            due("worth(" + z + ", " + u + ")", x.look().worth(z, u), m.worth(z, u));
             int p = upTo(mostPrice);
-            due("wants", x.wants(z, p), m.hasZone(z) && Model.in(p, 0, 9999) ? m.wants(z, p) : -1);
-            due("level low", x.level(z, p, false), m.level(z, p, false));
-            due("level high", x.level(z, p, true), m.level(z, p, true));
+            due("wants", x.look().wants(z, p), m.hasZone(z) && Model.in(p, 0, 9999) ? m.wants(z, p) : -1);
+            due("level low", x.look().level(z, p, false), m.level(z, p, false));
+            due("level high", x.look().level(z, p, true), m.level(z, p, true));
         }
     }
 
@@ -208,22 +210,22 @@ public final class MarketsTest {
         int[] served = m.served;
         for (int z = -1; z <= many; z++) {
             boolean is = z >= 0 && z < many;
-            due("price(" + z + ")", x.price(z), is ? price[z] : -1);
-            due("net(" + z + ")", x.net(z), is ? net[z] : -1000000);
-            due("served(" + z + ")", x.served(z), is ? served[z] : -1);
-            due("binds(" + z + ")", x.binds(z), is ? m.binds(z) : -1);
-            due("rent(" + z + ")", x.rent(z), is ? m.rent(z) : Model.NO_NUMBER);
-            due("charged(" + z + ")", x.charged(z), is ? (long) price[z] * served[z] : Model.NO_NUMBER);
+            due("price(" + z + ")", x.look().price(z), is ? price[z] : -1);
+            due("net(" + z + ")", x.look().net(z), is ? net[z] : -1000000);
+            due("served(" + z + ")", x.look().served(z), is ? served[z] : -1);
+            due("binds(" + z + ")", x.look().binds(z), is ? m.binds(z) : -1);
+            due("rent(" + z + ")", x.look().rent(z), is ? m.rent(z) : Model.NO_NUMBER);
+            due("charged(" + z + ")", x.look().charged(z), is ? (long) price[z] * served[z] : Model.NO_NUMBER);
         }
-        due("surplus", x.surplus(), m.surplus());
+        due("surplus", x.look().surplus(), m.surplus());
         for (int r = -1; r <= m.resources.size(); r++) {
-            due("paid(" + r + ")", x.paid(r), m.paid(r));
+            due("paid(" + r + ")", x.look().paid(r), m.paid(r));
             for (int k = -2; k <= 4; k++) {
-                due("taken(" + r + ", " + k + ")", x.taken(r, k), m.takenOf(r, k));
+                due("taken(" + r + ", " + k + ")", x.look().taken(r, k), m.takenOf(r, k));
             }
         }
         for (int k = 99; k <= 106; k++) {
-            due("paid(" + k + ")", x.paid(k), m.paid(k));
+            due("paid(" + k + ")", x.look().paid(k), m.paid(k));
         }
     }
 
@@ -231,26 +233,26 @@ public final class MarketsTest {
         for (int i = 0; i < 4; i++) {
             int z = anyZone();
             int r = anyResource();
-            due("without", x.without(r, z), m.without(r, z));
+            due("without", x.look().without(r, z), m.without(r, z));
             int owner = upTo(5);
-            due("pivotal", x.pivotal(owner, z), m.pivotal(owner, z));
+            due("pivotal", x.look().pivotal(owner, z), m.pivotal(owner, z));
             int n = upTo(random.nextBoolean() ? mostLimit : 9999);
             boolean out = random.nextBoolean();
-            due("wider", x.wider(z, n, out), m.wider(z, n, out));
-            due("freely", x.freely(z), m.freely(z));
+            due("wider", x.look().wider(z, n, out), m.wider(z, n, out));
+            due("freely", x.look().freely(z), m.freely(z));
             int p = upTo(mostPrice);
             int cost = upTo(mostPrice);
-            due("gain", x.gain(r, p, cost), m.gain(r, p, cost));
+            due("gain", x.look().gain(r, p, cost), m.gain(r, p, cost));
         }
         int z = anyZone();
         if (mostUnits <= 30 && m.zones.size() > 1 || z <= 0) {
-            due("needs(" + z + ")", x.needs(z), m.needs(z));
+            due("needs(" + z + ")", x.look().needs(z), m.needs(z));
         }
     }
 
     private void lookAtBest() {
         int r = anyResource();
         int cost = random.nextBoolean() ? upTo(mostPrice) : upTo(2500);
-        due("best(" + r + ", " + cost + ")", x.best(r, cost), m.best(r, cost));
+        due("best(" + r + ", " + cost + ")", x.look().best(r, cost), m.best(r, cost));
     }
 }

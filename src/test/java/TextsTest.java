@@ -6,7 +6,7 @@ import java.util.Random;
  */
 public final class TextsTest {
     private final Random random;
-    private final ZoneCapacity x = new ZoneCapacity();
+    private final Renewed x = new Renewed();
     private final Model m = new Model();
     private StringBuilder text;
 
@@ -39,38 +39,39 @@ public final class TextsTest {
         }
         String told = text.toString();
         String name = "run " + seed + ", text [" + told + "] ";
-        Check.due(name + "tell", Check.tell(x, told), m.tell(told));
-        Check.due(name + "fault", x.fault(), m.fault);
-        Check.due(name + "tape", x.count(3), 0);
+        int calls = (told.length() + 19) / 20 + 2;
+        Check.due(name + "tell", x.change(calls, c -> Check.tell(c, told)), m.tell(told));
+        Check.due(name + "fault", x.look().fault(), m.fault);
+        Check.due(name + "tape", x.look().count(3), 0);
         compare(name);
     }
 
     private void compare(String name) {
-        Check.due(name + "count(0)", x.count(0), m.zones.size());
-        Check.due(name + "count(1)", x.count(1), m.resources.size());
-        Check.due(name + "count(2)", x.count(2), m.ceiling);
+        Check.due(name + "count(0)", x.look().count(0), m.zones.size());
+        Check.due(name + "count(1)", x.look().count(1), m.resources.size());
+        Check.due(name + "count(2)", x.look().count(2), m.ceiling);
         for (int k = 0; k < 4; k++) {
-            Check.due(name + "floor", x.count(10 + k), m.floors[k]);
+            Check.due(name + "floor", x.look().count(10 + k), m.floors[k]);
         }
-        for (int z = 0; z < m.zones.size() && z < x.count(0); z++) {
+        for (int z = 0; z < m.zones.size() && z < x.look().count(0); z++) {
             Model.Zone zone = m.zones.get(z);
-            Check.due(name + "outer", x.zoneOf(z, 0), zone.outer);
-            Check.due(name + "in", x.zoneOf(z, 1), zone.in);
-            Check.due(name + "out", x.zoneOf(z, 2), zone.out);
-            Check.due(name + "points", x.zoneOf(z, 3), zone.points.size());
+            Check.due(name + "outer", x.look().zoneOf(z, 0), zone.outer);
+            Check.due(name + "in", x.look().zoneOf(z, 1), zone.in);
+            Check.due(name + "out", x.look().zoneOf(z, 2), zone.out);
+            Check.due(name + "points", x.look().zoneOf(z, 3), zone.points.size());
             for (int[] point : zone.points) {
-                Check.due(name + "worth", x.worth(z, point[0]), point[1]);
+                Check.due(name + "worth", x.look().worth(z, point[0]), point[1]);
             }
         }
-        for (int r = 0; r < m.resources.size() && r < x.count(1); r++) {
+        for (int r = 0; r < m.resources.size() && r < x.look().count(1); r++) {
             Model.Resource it = m.resources.get(r);
             int[] due = {it.zone, it.size, it.kind, it.owner, it.must ? 1 : 0, it.free ? 1 : 0, it.steps.size()};
             for (int what = 0; what < due.length; what++) {
-                Check.due(name + "resourceOf", x.resourceOf(r, what), due[what]);
+                Check.due(name + "resourceOf", x.look().resourceOf(r, what), due[what]);
             }
             for (int k = 0; k < 4; k++) {
-                Check.due(name + "line", x.line(r, k, false), m.unitsOf(r, k));
-                Check.due(name + "its", x.line(r, k, true), m.itsOf(r, k));
+                Check.due(name + "line", x.look().line(r, k, false), m.unitsOf(r, k));
+                Check.due(name + "its", x.look().line(r, k, true), m.itsOf(r, k));
             }
         }
     }
