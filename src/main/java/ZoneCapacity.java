@@ -574,6 +574,7 @@ public final class ZoneCapacity {
                 return NONE;
             }
             int x = 0;
+            // Beginning with the first point's own price, nothing falls up to it.
             int v = at(pointPrices, zone * MOST_POINTS);
             for (int i = 0; i < at(points, zone); i++) {
                 int y = at(pointUnits, zone * MOST_POINTS + i);
@@ -592,6 +593,7 @@ public final class ZoneCapacity {
             return length > 0 ? fall * on / length : 0;
         }
 
+        /** What the most worth units, so many of them, are worth together. */
         long worthOfFirst(int zone, int units) {
             long sum = 0;
             int x = 0;
@@ -889,6 +891,7 @@ public final class ZoneCapacity {
             int tooLow = 0;
             for (int bit = HIGHEST_BIT; bit > 0; bit >>= 1) {
                 if (tooLow + bit <= top) {
+                    // HIGH at the last of so many prices, all of which may be too low
                     fillLevels(zone, tooLow + bit, levels);
                     if (at(levels, zone) < least) {
                         tooLow += bit;
